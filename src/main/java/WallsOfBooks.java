@@ -1500,9 +1500,15 @@ public final class WallsOfBooks {
     /** Looks for the fewest books, by their numbers, that make all columns high. */
     private static final class Mason {
         final int[] steps = new int[2 * MOST_LAID];
+        private static final int SUMS = MOST_LAID + 1;
+
         private final int[] stock = new int[MOST_LAID];
         private int stocked;
         private int wanted;
+        /** At least 1, so that it can divide when there is no stock. */
+        private int thickest = 1;
+        /** From a place in the stock on, of so many books: the greatest thickness together. */
+        private final int[] mostThick = new int[SUMS * SUMS];
 
         /** How many, and the city stands so then; -2: it can't be, -3: there are too many. */
         int fewest(City city, Rule rule, int from, int h) {
@@ -1521,12 +1527,27 @@ public final class WallsOfBooks {
 
         private void stockUp(City city, int from) {
             stocked = 0;
+            thickest = 1;
             for (int b = 0; b < city.books; b++) {
                 if (city.where[b] == from && stocked < MOST_LAID) {
                     city.lift(b, ON_HEAP);
+                    thickest = Math.max(thickest, city.thick[b]);
                     stock[stocked] = b;
                     stocked++;
                 }
+            }
+            Arrays.fill(mostThick, NONE);
+            mostThick[stocked * SUMS] = 0;
+            for (int i = stocked - 1; i >= 0; i--) {
+                addUp(i, city.thick[stock[i]]);
+            }
+        }
+
+        private void addUp(int i, int itsThick) {
+            mostThick[i * SUMS] = 0;
+            for (int n = 1; n <= stocked - i; n++) {
+                int with = itsThick + mostThick[(i + 1) * SUMS + n - 1];
+                mostThick[i * SUMS + n] = Math.max(with, mostThick[(i + 1) * SUMS + n]);
             }
         }
 
@@ -1554,21 +1575,23 @@ public final class WallsOfBooks {
             return false;
         }
 
+        /** Whether as many books as are left could do if they were all borne. */
         private boolean canReach(City city, int from, int left) {
-            int lowColumns = 0;
             int lack = 0;
+            int needed = 0;
             for (int c = 0; c < city.columns; c++) {
-                int height = city.heightOf(c);
-                if (height < wanted) {
-                    lowColumns++;
-                    lack += wanted - height;
+                int less = wanted - city.heightOf(c);
+                if (less <= 0) {
+                    continue;
                 }
+                int atLeast = (less + thickest - 1) / thickest;
+                if (atLeast > PLACES - city.many[c]) {
+                    return false;
+                }
+                lack += less;
+                needed += atLeast;
             }
-            int more = 0;
-            for (int i = from; i < stocked; i++) {
-                more += city.thick[stock[i]];
-            }
-            return lowColumns <= left && lack <= more && left <= stocked - from;
+            return needed <= left && lack <= mostThick[from * SUMS + left];
         }
     }
 
