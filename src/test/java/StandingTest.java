@@ -122,6 +122,10 @@ public final class StandingTest {
         Check.row("none out", z, 0);
         Check.due("two out", z.spares(2), 2);
         Check.row("two out", z, 3);
+        // What does not hold stays as it is, though it would with fewer.
+        Check.rule(z, "(n<3)*99");
+        Check.due("holds not", z.spares(0), 0);
+        Check.row("holds not", z, 0);
     }
 
     private static void promise24() {
