@@ -345,7 +345,7 @@ public final class WallsOfBooks {
         trial.copyFrom(now);
         int all = 0;
         for (int c = 0; c < now.columns; c++) {
-            if (now.heightOf(c) >= h && now.holdsUp(c, inForce)) {
+            if (now.heightOf(c) >= h) {
                 all |= mostSpared(c, h);
             }
         }
@@ -762,8 +762,10 @@ public final class WallsOfBooks {
         }
     }
 
-    /** The most books of a column that is high enough and holds; of as many the least bits. */
+    /** The most books of a column that is high enough; of as many the least bits. */
     private int mostSpared(int c, int h) {
+        // One that does not hold has nothing to keep but its height.
+        boolean mustHold = now.holdsUp(c, inForce);
         int best = 0;
         for (int choice = 1; choice < 1 << now.many[c]; choice++) {
             int bits = now.bitsChosen(c, choice);
@@ -772,7 +774,7 @@ public final class WallsOfBooks {
                 continue;
             }
             trial.copyColumnWithout(now, c, choice);
-            if (trial.holdsUp(c, inForce)) {
+            if (!mustHold || trial.holdsUp(c, inForce)) {
                 best = bits;
             }
         }

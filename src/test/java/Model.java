@@ -717,8 +717,9 @@ final class Model {
             if (rest.size() == pile.size()) {
                 continue;
             }
-            boolean was = height(pile) >= h && holds(pile, c, rule);
-            if (!was || height(rest) < h || !holds(rest, c, rule)) {
+            boolean high = height(pile) >= h;
+            boolean held = holds(pile, c, rule);
+            if (!high || height(rest) < h || (held && !holds(rest, c, rule))) {
                 return false;
             }
         }

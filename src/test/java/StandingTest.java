@@ -122,10 +122,26 @@ public final class StandingTest {
         Check.row("none out", z, 0);
         Check.due("two out", z.spares(2), 2);
         Check.row("two out", z, 3);
-        // What does not hold stays as it is, though it would with fewer.
+        // What does not hold as it is (c 2, b 2, a 2 from below) must keep its height alone.
         Check.rule(z, "(n<3)*99");
-        Check.due("holds not", z.spares(0), 0);
-        Check.row("holds not", z, 0);
+        Check.due("holds not", z.column(0, 3), 0);
+        Check.due("holds not, 0", z.spares(0), 3);
+        Check.row("holds not, 0", z, 7);
+        Check.due("holds not, 3", z.spares(3), 1);
+        Check.row("holds not, 3", z, 1);
+        Check.due("holds not, below h", z.spares(7), 0);
+        Check.row("holds not, below h", z, 0);
+        // Nor need it hold with fewer.
+        Check.rule(z, "0");
+        Check.due("never holds, 4", z.spares(4), 1);
+        Check.row("never holds, 4", z, 1);
+        // Beside it one that holds: that one must hold yet.
+        WallsOfBooks w = Check.city("99", "29;21;21;11;11;11", "cba/fed", "");
+        Check.rule(w, "(n=3)*(c=1)*99");
+        Check.due("one holds, one not, 2", w.spares(2), 2);
+        Check.row("one holds, one not, 2: a, b", w, 3);
+        Check.due("one holds, one not, 1", w.spares(1), 4);
+        Check.row("one holds, one not, 1: a, b, d, e", w, 27);
     }
 
     private static void promise24() {
