@@ -177,5 +177,9 @@ public final class LayingTest {
         WallsOfBooks u = Check.city("", "91", "a", "");
         Check.due("never to return", u.play(2), 0);
         Check.due("never to return", u.play(4), 0);
+        // With column 0 empty the enemy goes on to the others: two are empty by each of its turns.
+        WallsOfBooks t = Check.city("", "11;11;11;11", "-/a/b", "");
+        Check.due("behind an empty column", t.play(4), 0);
+        Check.row("behind an empty column", t, 1);
     }
 }
