@@ -4,12 +4,26 @@ import java.util.NoSuchElementException;
 final class Check {
     private static int wrong;
     private static int asked;
+    private static String under = "";
 
     private Check() {
     }
 
     interface Call {
         int ask();
+    }
+
+    /** What is told ahead of each wrong answer from now on. */
+    static void under(String words) {
+        under = words;
+    }
+
+    static int asked() {
+        return asked;
+    }
+
+    static int wrong() {
+        return wrong;
     }
 
     static void text(WallsOfBooks x, String t) {
@@ -72,7 +86,7 @@ final class Check {
         asked++;
         if (got != want) {
             wrong++;
-            System.out.println(what + " answered " + got + ", due is " + want);
+            System.out.println(under + what + " answered " + got + ", due is " + want);
         }
     }
 
