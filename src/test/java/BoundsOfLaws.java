@@ -24,6 +24,8 @@ final class BoundsOfLaws extends Bounds {
             due("empty: t*4, which is 4 below 5", Check.law(x, ""), 62);
             row("empty", x, 63, 3 * 4 - 3 * 9);
             due("5", Check.law(x, "5"), 63);
+            due("empty again, not 5", Check.law(x, ""), 62);
+            row("empty again, not 5", x, 63, 3 * 4 - 3 * 9);
             due("4", Check.law(x, "4"), 62);
             due("one sign", Check.law(x, "0"), 62);
             due("the rule stays", x.book(0, 6), 9);
@@ -240,6 +242,16 @@ final class BoundsOfLaws extends Bounds {
             row("lent, 2", x, 0, 0);
             due("lent, 3", x.years(5, 3), 1);
             row("lent, 3", x, 1, 0);
+            // Late by 9: it comes back with day 38 from now on, is laid ahead of day 39, shot ahead of day 40.
+            WallsOfBooks y = city("", "30", "-", "9");
+            y.days(7);
+            y.lend(0, 0, 30);
+            y.days(1);
+            due("late, 38", y.years(5, 38), 0);
+            due("late, 39", y.years(5, 39), 1);
+            row("late, 39", y, 0, 0);
+            due("late, 40", y.years(5, 40), 1);
+            row("late, 40", y, 1, 0);
         });
         at(36, "ahead of each a DRAW of COLUMNS is shot once (its highest BOOK)", () -> {
             WallsOfBooks x = city("", "30;20", "ab", "");
@@ -304,6 +316,18 @@ final class BoundsOfLaws extends Bounds {
                 due("laid by " + seed, x.years(seed, 1), 1);
                 row("laid by " + seed, x, 0, 1 + drawn(seed, 7, 2));
             }
+        });
+        at(36, "then a DRAW of BOOKS is laid on a DRAW of COLUMNS", () -> {
+            // The first draw's column is 1 high then; it is 6 high if the third draw is the same.
+            WallsOfBooks x = city("99", "10;90;10;90;10;90;50;50;50;50;50;50", "ab/cd/ef", "");
+            int laid = 0;
+            for (int seed = 0; seed < 60; seed++) {
+                boolean onHeap = drawn(seed, 12, 2) >= 6;
+                due("laid by " + seed, x.years(seed, 1), onHeap ? 1 : 0);
+                row("laid by " + seed, x, 1, onHeap && drawn(seed, 3, 1) == drawn(seed, 3, 3) ? 6 : 1);
+                laid += onHeap ? 1 : 0;
+            }
+            due("some are on the heap, some are not", laid > 10 && laid < 50, true);
         });
         at(36, "(R without sign, by 65536) % n", () -> {
             // All in columns: the first draw tells which column is shot.

@@ -194,6 +194,8 @@ final class BoundsOfLaying extends Bounds {
             due("in a column, lost, lent, on the heap", x.stack(1 + 8 + 16 + 128, 1), 24);
             row("in a column, lost, lent, on the heap", x, 0, 3, 4, 7);
             due("on a column that has three", x.stack(16 + 32 + 64 + 128, 0), 24);
+            due("one that came later", Check.books(x, "11") + x.stack(256, 0), 2);
+            row("one that came later", x, 8);
             // Of as many as they are, not as are in it.
             Check.rule(x, "(n=2)*9");
             due("n is 2", x.stack(3, 0), 2);
@@ -265,6 +267,7 @@ final class BoundsOfLaying extends Bounds {
             due("it waits, and lays behind the last the enemy can take", x.play(4), 3);
             WallsOfBooks y = city("0", "91;15;30", "ac", "");
             due("nothing that is not borne", y.play(2), 9);
+            due("a, the first of all", city("99", "31;91", "b", "").play(2), 3);
             WallsOfBooks z = city("99", "11;11;11;11;91", "abcd", "");
             due("there is room by what was taken", z.play(2), 12);
             WallsOfBooks full = city("99", "11;11;11;11;91", "abcd/-", "");
@@ -280,6 +283,9 @@ final class BoundsOfLaying extends Bounds {
             Check.wall(x, "c/ab");
             x.play(1);
             row("c leaves 0, in the first", x, 0);
+            WallsOfBooks two = city("99", "51;51;51;51;51", "ab/cd", "");
+            due("either is mended", two.play(2), 10);
+            row("either is mended", two, 0);
             Check.wall(x, "-");
             for (int n = 1; n <= 4; n++) {
                 int[] least = {0, 5, 0, 5};

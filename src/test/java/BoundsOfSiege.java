@@ -172,6 +172,12 @@ final class BoundsOfSiege extends Bounds {
                 row("shot of " + n, x, broken[n - 1]);
                 due("lost by " + n, x.count(7), broken[n - 1]);
             }
+            WallsOfBooks y = made.make();
+            due("a first", y.shot(0, 1), 24);
+            due("a second", y.shot(0, 2), 9);
+            row("what the second broke", y, 6);
+            due("a third", y.shot(0, 2), 0);
+            row("what the third broke", y, 1);
             for (int n = 1; n <= 4; n++) {
                 WallsOfBooks x = made.make();
                 due("shot of " + n + " on one", x.shot(1, n), 0);
@@ -437,19 +443,25 @@ final class BoundsOfSiege extends Bounds {
             same("both undone", look(x), ahead);
         });
         at(18, "(DAY, where BOOKS are, when they are due, FINES are as ahead of it)", () -> {
-            WallsOfBooks x = rich();
-            String ahead = look(x);
-            due("recall", x.recall(1), 0);
-            due("days", x.days(9), 10);
-            due("fines", x.reader(1, 1), 3);
-            due("shot", x.shot(2, 1), 0);
-            due("lend", x.lend(2, 0, 30), 40);
-            due("lay", x.lay(6, 0), 4);
-            for (int left = 10; left >= 6; left--) {
-                due("undo", x.undo(), left);
+            WallsOfBooks x = city("99", lines(12, "11"), "abcd/-/-/-/e/fgh", "1;9");
+            x.lend(8, 0, 1);
+            x.lend(9, 1, 1);
+            x.days(5);
+            Act[] acts = {y -> y.lay(8, 5), y -> y.lend(0, 0, 30), y -> y.days(9), y -> y.shot(5, 2), y -> y.lend(11, 1, 2),
+                y -> y.recall(11), y -> Check.siege(y, "lj3;s41;d40;oa11"), y -> y.lend(9, 0, 1)};
+            String[] ahead = new String[acts.length];
+            for (int i = 0; i < acts.length; i++) {
+                x.low(9);
+                ahead[i] = look(x);
+                due("act " + i + " is done", acts[i].on(x) >= 0, true);
             }
-            x.low(9);
-            same("all undone", look(x), ahead);
+            due("fines", x.reader(0, 1) + x.reader(1, 1), 1 + 9 + 1);
+            for (int i = acts.length - 1; i >= 0; i--) {
+                due("undo " + i, x.undo(), 3 + i);
+                x.low(9);
+                same("undo " + i, look(x), ahead[i]);
+            }
+            due("fines as ahead", x.reader(0, 1), 1);
         });
         at(18, "how many are left that can be. Refused: none.", () -> {
             WallsOfBooks x = rich();
@@ -517,6 +529,21 @@ final class BoundsOfSiege extends Bounds {
 
     private static void again() {
         at(38, "They are as they were kept under a number.", () -> {
+            WallsOfBooks z = city("99", lines(12, "11"), "abcd/-/-/-/e/fgh", "1;9");
+            z.lend(8, 0, 1);
+            z.days(5);
+            z.lend(9, 1, 30);
+            z.keep(0);
+            z.low(9);
+            String ahead = look(z);
+            due("a siege", Check.siege(z, "s54;s44;d50;oj01;d9;li5;lj3"), 7);
+            due("kept", z.keep(1), true);
+            due("again 0", z.again(0), true);
+            z.low(9);
+            due("nothing to undo", z.count(10), 0);
+            same("again 0, but for what can be undone", afterCounts(look(z)), afterCounts(ahead));
+            due("again 1", z.again(1), true);
+            due("fines by then", z.reader(0, 1) + z.reader(1, 1), 1 + 9 + 1);
             WallsOfBooks x = city("", "35;26;41;15", "ca/b/-", "2;3");
             x.keep(0);
             String first = look(x);
@@ -533,8 +560,7 @@ final class BoundsOfSiege extends Bounds {
             due("not lost", x.count(7), 0);
             due("not lent", x.count(6), 0);
             due("fines", x.reader(0, 1), 0);
-            String then = look(x);
-            same("again, all but the row", then.substring(then.indexOf("book")), first.substring(first.indexOf("book")));
+            same("again, all but the row", afterCounts(look(x)), afterCounts(first));
             due("more than once", x.again(0), true);
         });
         at(38, "Refused: nothing kept, BOOKS, READERS came, or THE WALL was told anew since.", () -> {
@@ -563,6 +589,10 @@ final class BoundsOfSiege extends Bounds {
                 due("kept since", againBehind(n, "11", x -> x.books() + (x.keep(n) ? 1 : 0)), true);
             }
         });
+    }
+
+    private static String afterCounts(String look) {
+        return look.substring(look.indexOf("book"));
     }
 
     private static boolean againBehind(int i, String text, Act call) {

@@ -191,6 +191,11 @@ final class BoundsOfStanding extends Bounds {
             due("as it is", x.column(0, 3), 0);
             due("4", x.spares(4), 1);
             row("4", x, 1);
+            // By the day on which it is asked: two bear 1 on day 1.
+            Check.rule(x, "(n=3)*99+d");
+            due("4 on day 0", x.spares(4), 0);
+            x.days(1);
+            due("4 on day 1", x.spares(4), 1);
         });
     }
 
@@ -248,6 +253,11 @@ final class BoundsOfStanding extends Bounds {
             refusedIn(none, "by none", x -> x.spare(0), -2);
             refusedIn(none, "there is none", x -> x.spare(1), -2);
             refusedIn(WallsOfBooks::new, "a new one", x -> x.spare(0), -2);
+            WallsOfBooks x = none.make();
+            Check.rule(x, "d*4");
+            due("on day 0", x.spare(0), -2);
+            x.days(1);
+            due("on day 1", x.spare(0), 1);
         });
         at(24, "NONE: none such.", () -> {
             for (int c : new int[] {-1, 3, 6, LEAST, MOST}) {

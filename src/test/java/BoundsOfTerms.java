@@ -28,6 +28,9 @@ final class BoundsOfTerms extends Bounds {
             due("a thirteenth", Check.books(x, "11"), -1);
             due("twelve yet", x.count(0), 12);
             due("m is never one", Check.wall(x, "m"), -1);
+            allOfAFullCity();
+            layingInAFullCity();
+            lentByAFullCity();
         });
         at(TERMS, "THICK 1 .. 9, WEIGHT 0 .. 9", () -> {
             WallsOfBooks x = new WallsOfBooks();
@@ -49,8 +52,14 @@ final class BoundsOfTerms extends Bounds {
             due("35 signs", Check.books(x, lines(12, "11")), 12);
         });
         at(TERMS, "Each BOOK is on THE HEAP (at first), in a COLUMN, LENT, or LOST.", () -> {
-            WallsOfBooks x = city("", lines(12, "11"), "-", "1");
+            WallsOfBooks x = new WallsOfBooks();
+            due("three", Check.books(x, "11;11;11"), 3);
+            due("on the heap", x.count(4), 7);
+            due("in no column, with nobody", x.book(2, 3), -1);
+            due("not due", x.book(2, 5), -1);
+            due("nine more", Check.books(x, lines(9, "11")), 9);
             due("all at first", x.count(4), 4095);
+            due("a reader", Check.readers(x, "1"), 1);
             x.lay(0, 0);
             x.lay(1, 0);
             x.lend(2, 0, 1);
@@ -59,7 +68,96 @@ final class BoundsOfTerms extends Bounds {
             due("columns", x.count(5), 1);
             due("lent", x.count(6), 4);
             due("lost", x.count(7), 2);
+            int[] where = {1, 3, 2, 0};
+            for (int b = 0; b < 4; b++) {
+                due("where " + b + " is", x.book(b, 2), where[b]);
+            }
         });
+    }
+
+    private static WallsOfBooks full() {
+        return city("99", lines(12, "11"), "ab/cd/ef/gh/ij/kl", "1;1;1;1");
+    }
+
+    /** Twelve books in six columns: the last of them count as much as the first. */
+    private static void allOfAFullCity() {
+        WallsOfBooks x = full();
+        due("weakest", x.weakest(), 0);
+        row("weakest", x, 1, 2);
+        due("low 3", x.low(3), 63);
+        row("low 3", x, 6, 2);
+        due("room on the last", x.room(5), 98);
+        row("room on the last", x, 10);
+        due("spares 0", x.spares(0), 12);
+        row("spares 0", x, 4095);
+        due("spares 1", x.spares(1), 6);
+        row("spares 1", x, 1 + 4 + 16 + 64 + 256 + 1024);
+        due("spare of the last", x.spare(5), 10);
+        row("spare of the last", x, 1);
+        due("build 2", x.build(2), 0);
+        due("build 3", x.build(3), -2);
+        due("tallest", x.tallest(), 2);
+        row("tallest", x, 0);
+        due("stack of the last four on the last", x.stack(3840, 5), 24);
+        row("stack of the last four on the last", x, 8, 9, 10, 11);
+        int[] least = {1, 1, 0, 0};
+        for (int n = 1; n <= 4; n++) {
+            due("play " + n, x.play(n), least[n - 1]);
+            row("play " + n, x, 0);
+        }
+        due("law", Check.law(x, "0"), 0);
+        row("law", x, 63, -12 * 99);
+        due("look", x.look(), 0);
+        row("look", x, 3);
+        for (int c = 0; c < 6; c++) {
+            due("seen " + c, x.seen(c, 1), c + 1);
+        }
+        due("out of the last", x.out(5), 2);
+        row("out of the last", x, 1024, 0);
+        due("all were seen", x.look(), -2);
+        due("none is on the heap, so none is laid", x.years(1, 60), 0);
+        due("thick of all", x.sheet(2, 12, 9, 0), 108);
+        due("thick of the last", x.column(5, 0), 18);
+    }
+
+    private static void layingInAFullCity() {
+        WallsOfBooks x = city("99", lines(12, "11"), "ab/c/d/e/f/g", "1");
+        due("build", x.build(2), 5);
+        row("build", x, 7, 1, 8, 2, 9, 3, 10, 4, 11, 5);
+        due("tallest", x.tallest(), 2);
+        row("tallest", x, 5);
+        due("lend", x.lend(11, 0, 1), 1);
+        due("one is missing", x.build(2), -2);
+        due("calls", x.calls(1), 0);
+        int[] least = {0, 1, 0, 1};
+        int[] first = {1, 0, 0, 0};
+        for (int n = 1; n <= 4; n++) {
+            due("play " + n, x.play(n), least[n - 1]);
+            row("play " + n, x, first[n - 1]);
+        }
+        Check.rule(x, "0");
+        due("nothing is borne in the last turn", x.play(2), 1);
+        x.recall(11);
+        due("nothing is borne by any of the six", x.build(2), -2);
+    }
+
+    private static void lentByAFullCity() {
+        WallsOfBooks x = full();
+        for (int b = 0; b < 12; b++) {
+            due("lend " + b, x.lend(b, b / 3, 1 + b / 11), 1 + b / 11);
+        }
+        due("no book is in a column", x.weakest(), -2);
+        due("the last reader", x.reader(3, 2), 512 + 1024 + 2048);
+        due("home", x.home(), 3);
+        row("home", x, 11);
+        due("twelve are lent", x.calls(0), -3);
+        due("two days", x.days(2), 2);
+        row("all but the last", x, 2047, 11);
+        due("the last is recalled", x.calls(1), -2);
+        due("one more", x.days(1), 3);
+        row("the last", x, 2048, 1);
+        due("the last is shot", x.lay(11, 5) + x.shot(5, 4), 1);
+        row("the last is shot", x, 2048);
     }
 
     private static void columns() {
@@ -153,6 +251,12 @@ final class BoundsOfTerms extends Bounds {
             int[] worth = {1, 0, 0, 1, 0, 0, 1, 0};
             for (int i = 0; i < two.length; i++) {
                 reckons(two[i], worth[i]);
+            }
+            reckons("3+(2<2)+(2>2)*9+(1=2)*9", 3);
+            WallsOfBooks again = city("1<2", "35", "a", "");
+            for (int i = 0; i < 3; i++) {
+                due("by a law", Check.law(again, "1>2"), 1);
+                due("by a rule", Check.rule(again, "1<2"), 0);
             }
             reckons("1+1=2", 1);
             reckons("5=2*2+1", 1);
