@@ -15,7 +15,7 @@ public final class BoundariesTest {
     private static final Path DOCUMENT = Path.of("../shared/DOC.md");
     /** Words by which the document names a bound, an empty or full thing, or a call that is refused. */
     private static final Pattern BOUND = Pattern.compile("-\\d+( - p)?: |NONE: |NONE\\)|NONE for|Refused|\\d+ \\.\\. |"
-            + "NoSuchElementException: |at most|at first|an empty |too early|no room|nothing |[Nn]othing|none|without|"
+            + "NoSuchElementException: |at most|at first|an empty |too early|no room|[Nn]othing|none|without|"
             + "more than|likewise|\\(cut\\)|cut to 0|as ints|lowest bits|fewer|another|of equal ones|of as |as one|"
             + "not refused|others|1 to \\d|1 or 2 digits|forgotten|\\(never|first \\d+");
 

@@ -4,6 +4,7 @@ final class BoundsOfLaying extends Bounds {
     private static final int MOST = Integer.MAX_VALUE;
 
     static void run() {
+        byTheirNumbers();
         build();
         buildFaults();
         tallest();
@@ -13,6 +14,30 @@ final class BoundsOfLaying extends Bounds {
         stackFaults();
         play();
         playFaults();
+    }
+
+    private static void byTheirNumbers() {
+        at(TERMS, "laying (BOOKS by their numbers, each on top of a COLUMN as in lay()).", () -> {
+            // a comes first, so it is always below b.
+            due("the lower number bears", city("(t=2)*9", "29;12", "-", "").build(3), 2);
+            due("the higher number bears", city("(t=1)*9", "29;12", "-", "").build(3), -2);
+            // Three would hold, but on the way two do not.
+            WallsOfBooks x = city("(n=3)*99", "11;11;11", "-", "1");
+            due("not two on the way", x.build(3), -2);
+            due("one", x.tallest(), 1);
+            x.lend(0, 0, 1);
+            due("by calls, too", x.calls(2), -2);
+            // On top of what is there, as many as there is room for.
+            WallsOfBooks y = city("99", "11;11;11;11;11", "abc", "");
+            due("a fourth", y.build(4), 1);
+            due("a fifth", y.build(5), -2);
+            // On one that does not hold as it is, if it holds by that.
+            Check.rule(y, "(n=4)*9");
+            due("three do not hold", y.column(0, 3), 0);
+            due("four do", y.build(4), 1);
+            Check.rule(y, "0");
+            due("four do not either", y.build(4), -2);
+        });
     }
 
     private static void build() {
